@@ -2,8 +2,8 @@ import java.util.Arrays;
 import java.util.function.IntSupplier;
 
 /**
- * One test for each sentence of the document that names a boundary case; the
- * sentence's words are the test's name. Answers are worked out by hand.
+ * One test for each sentence of the document that names a boundary case, named
+ * after its promise and sentence. Answers are worked out by hand.
  */
 public final class BoundaryTest {
     private static final int BAD = AlignmentDesk.BAD;
